@@ -461,7 +461,7 @@ public final class RecalcSheet {
 
         Reader() {
             values = new Values();
-            // A function's brackets are the only ones open at their depth: one tally a depth will do.
+            // Of all brackets that are open at once each has a depth of its own: one tally a depth will do.
             tallies = new Tally[DEEPEST + 1];
             for (int depth = 0; depth <= DEEPEST; depth++) {
                 tallies[depth] = new Tally();
@@ -476,7 +476,6 @@ public final class RecalcSheet {
             at = 0;
             wrong = false;
             references = 0;
-            error = NO_ERROR;
             if (accept('=')) {
                 number = expression(0);
             } else if (accept('-')) {
@@ -626,22 +625,22 @@ public final class RecalcSheet {
 
         private void argument(Tally tally, int depth) {
             // A colon can stand behind a name alone, and names have two characters.
-            if (peek(2) == ':') {
-                range(tally);
-            } else {
+            if (peek(2) != ':') {
                 long met = expression(depth);
                 tally.meet(met, error);
+                return;
             }
-        }
-
-        private void range(Tally tally) {
             int one = name();
-            need(':');
+            at++;
             int other = name();
             if (one == BAD || other == BAD) {
                 refuse();
-                return;
+            } else {
+                range(one, other, tally);
             }
+        }
+
+        private void range(int one, int other, Tally tally) {
             int lastRow = Math.max(one / SIDE, other / SIDE);
             int lastColumn = Math.max(one % SIDE, other % SIDE);
             for (int row = Math.min(one / SIDE, other / SIDE); row <= lastRow; row++) {
@@ -761,7 +760,9 @@ public final class RecalcSheet {
         }
 
         private void need(char character) {
-            if (!accept(character)) {
+            if (peek(0) == character) {
+                at++;
+            } else {
                 refuse();
             }
         }

@@ -185,6 +185,8 @@ public final class PromisesTest {
         check.due("a refused round leaves worked", sheet.worked(), 2);
         check.due("a refused round leaves changed", Check.changed(sheet), "1 0");
         check.due("round by a range", Check.enter(sheet, "C1", "=SUM(H8:A1)"), NO_STATE);
+        Check.enter(sheet, "H8", "=D1");
+        check.due("round by the last place", Check.enter(sheet, "D1", "=H8"), NO_STATE);
         check.due("no round any more", Check.enter(sheet, "A1", "1"), "1");
         check.due("what was a round before", Check.enter(sheet, "C1", "=A1+1"), "1");
         check.due("its value", Check.value(sheet, 2), "2");
@@ -225,6 +227,21 @@ public final class PromisesTest {
         check.due("error 2 error 1", Check.enter(sheet, "A1", "=1%0"), "2");
         check.due("error 1 a number", Check.enter(sheet, "A1", "0"), "2");
         check.due("empty a number 0", Check.enter(sheet, "H1", "0"), "1");
+        oneErrorIsOneValue();
+    }
+
+    private static void oneErrorIsOneValue() {
+        RecalcSheet sheet = new RecalcSheet();
+        Check.enter(sheet, "A1", "=1/0");
+        Check.enter(sheet, "B1", "=A1");
+        String[] texts = {
+            "=5%0", "=7/0+1", "=7+1/0", "=-(7/0)", "=--(7/0)", "=IF(7/0,8,9)", "=IF(1,7/0,9)", "=IF(0,8,7/0)",
+            "=SUM(8,7/0)", "=MIN(7/0)", "=MAX(8,7/0,9)", "=COUNT(8,7/0)", "=A1", "=-A1", "=SUM(A1:A1)", "=A1<8", "=8=A1",
+        };
+        for (String text : texts) {
+            check.due("error 1 as before: " + text, Check.enter(sheet, "B1", text), "0");
+            check.due("is error 1: " + text, sheet.kind(1), 2);
+        }
     }
 
     private static void clear() {

@@ -61,7 +61,8 @@ public final class ModelTest {
         }
 
         void go() {
-            while (calls < CALLS - 8) {
+            // One turn makes 14 calls at most: ten to type a text, and four more.
+            while (calls <= CALLS - 14) {
                 int dice = random.nextInt(100);
                 if (dice < enterWeight) {
                     enter();

@@ -2,6 +2,12 @@
 final class Check {
     private int right;
     private int wrong;
+    private String sentence = "";
+
+    /** What is checked from here on stands under these words of the document. */
+    void says(String words) {
+        sentence = "[" + words + "] ";
+    }
 
     void due(String what, Object got, Object want) {
         if (got.equals(want)) {
@@ -11,7 +17,7 @@ final class Check {
         wrong++;
         // A broken program may give thousands of these; the first ones tell enough.
         if (wrong <= 50) {
-            System.out.println(what + " answered " + got + ", due is " + want);
+            System.out.println(sentence + what + " answered " + got + ", due is " + want);
         }
     }
 

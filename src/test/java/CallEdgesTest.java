@@ -59,7 +59,8 @@ public final class CallEdgesTest {
     private static void typeTakesOneToEight() {
         check.says("BAD (and none of them is typed) when n is not 1 .. 8");
         Sheet sheet = new Sheet();
-        int[] wrong = {0, 9, -1, 10, -8, 16, 40, 41, 64, 256, 257, Integer.MAX_VALUE, Integer.MIN_VALUE, Integer.MIN_VALUE + 1, Integer.MIN_VALUE + 8};
+        int[] wrong = {0, 9, -1, 10, -8, 16, 40, 41, 64, 256, 257, Integer.MAX_VALUE, Integer.MIN_VALUE,
+                Integer.MIN_VALUE + 1, Integer.MIN_VALUE + 8};
         for (int n : wrong) {
             check.due("n " + n, sheet.type(Sheet.packed("12345678"), n), -1);
         }
@@ -83,7 +84,8 @@ public final class CallEdgesTest {
         check.says("the lowest n bytes of characters, the highest of them first: how many are typed");
         for (int n = 1; n <= 7; n++) {
             String digits = "12345678".substring(8 - n);
-            for (long above : new long[] {0L, -1L, 0x0101_0101_0101_0101L, 0x4141_4141_4141_4141L, 0x8000_0000_0000_0000L}) {
+            for (long above : new long[] {0L, -1L, 0x0101_0101_0101_0101L, 0x4141_4141_4141_4141L,
+                    0x8000_0000_0000_0000L}) {
                 Sheet sheet = new Sheet();
                 check.due("n " + n + " below others", sheet.type(above << 8 * n | Sheet.packed(digits), n), n);
                 check.due("enter them", sheet.enter(0), "1");
@@ -105,7 +107,8 @@ public final class CallEdgesTest {
             for (int at = 0; at < n; at++) {
                 long ones = Sheet.packed("1".repeat(n)) & ~(255L << 8 * at);
                 for (long wrong : new long[] {0, 1, 10, 31, 127, 128, 159, 160, 177, 254, 255}) {
-                    check.due("character " + wrong + " at " + at + " of " + n, sheet.type(ones | wrong << 8 * at, n), -1);
+                    check.due("character " + wrong + " at " + at + " of " + n, sheet.type(ones | wrong << 8 * at, n),
+                            -1);
                 }
             }
             check.due("none of them is typed", sheet.wipe(), 0);
@@ -188,7 +191,8 @@ public final class CallEdgesTest {
 
     private static void enterWhatIsNoContent() {
         check.says("IllegalArgumentException when .. what is typed is no content");
-        for (String text : new String[] {"", " ", "-", "=", "A", "=A", "1234567890", "=1+", "=SUM()", "=(1", FORTY.substring(0, 39), "1".repeat(40), " ".repeat(40)}) {
+        for (String text : new String[] {"", " ", "-", "=", "A", "=A", "1234567890", "=1+", "=SUM()", "=(1",
+                FORTY.substring(0, 39), "1".repeat(40), " ".repeat(40)}) {
             Sheet sheet = new Sheet().with("A1", "5");
             check.due("enter '" + text + "' into a full one", sheet.enter("A1", text), Sheet.ARGUMENT);
             check.due("enter it into an empty one", sheet.enter(1), Sheet.ARGUMENT);
@@ -226,8 +230,9 @@ public final class CallEdgesTest {
 
     private static void enterARound() {
         check.says("IllegalStateException, behind that, when a cell would refer to itself then, or to one that refers to it, and so on");
-        for (String text : new String[] {"=A1", "=-A1", "=(A1)", "=A1+1", "=1+A1", "=0*A1", "=1/0+A1", "=A1<1", "=IF(1,2,A1)", "=IF(0,A1,2)", "=IF(A1,1,2)",
-            "=IF(1/0,A1,2)", "=SUM(A1)", "=SUM(1/0,A1)", "=SUM(A1:A1)", "=SUM(A1:H8)", "=COUNT(B2:A1)", "=MAX(A2:B1)", "=IF(1,2,SUM(A1:B2))"}) {
+        for (String text : new String[] {"=A1", "=-A1", "=(A1)", "=A1+1", "=1+A1", "=0*A1", "=1/0+A1", "=A1<1",
+                "=IF(1,2,A1)", "=IF(0,A1,2)", "=IF(A1,1,2)", "=IF(1/0,A1,2)", "=SUM(A1)", "=SUM(1/0,A1)", "=SUM(A1:A1)",
+                "=SUM(A1:H8)", "=COUNT(B2:A1)", "=MAX(A2:B1)", "=IF(1,2,SUM(A1:B2))"}) {
             check.due("A1 to itself by " + text, new Sheet().enter("A1", text), Sheet.STATE);
         }
         check.due("the last cell to itself", new Sheet().enter("H8", "=H8"), Sheet.STATE);
@@ -238,7 +243,8 @@ public final class CallEdgesTest {
             }
             check.due("a round of " + cells, sheet.enter(Sheet.name(cells - 1), "=A1"), Sheet.STATE);
             check.due("it is typed still", sheet.wipe(), 3);
-            check.due("a round of " + cells + " through a range", sheet.enter(Sheet.name(cells - 1), "=SUM(A2:A1)"), Sheet.STATE);
+            check.due("a round of " + cells + " through a range", sheet.enter(Sheet.name(cells - 1), "=SUM(A2:A1)"),
+                    Sheet.STATE);
             check.due("no cell is changed", sheet.shows(Sheet.name(cells - 1)), "empty");
         }
         Sheet sheet = new Sheet().with("A1", "=IF(1,2,B1)");
@@ -398,7 +404,8 @@ public final class CallEdgesTest {
 
     private static void value() {
         check.says("The number that a cell has, 0 when it is empty (kind() tells that)");
-        Sheet sheet = new Sheet().with("A1", "0").with("B1", "=65536*65536*65536*32768").with("C1", "=B1-1").with("H8", "-1");
+        Sheet sheet = new Sheet().with("A1", "0").with("B1", "=65536*65536*65536*32768").with("C1", "=B1-1")
+                .with("H8", "-1");
         check.due("of 0", sheet.value(0), "0");
         check.due("the least", sheet.value(1), "-9223372036854775808");
         check.due("the greatest", sheet.value(2), "9223372036854775807");
@@ -446,7 +453,8 @@ public final class CallEdgesTest {
             for (int i = 0; i < length; i++) {
                 check.due("content of " + text + " at " + i, sheet.content(63, i), (int) text.charAt(i));
             }
-            for (int i : new int[] {-1, length, length + 1, 39, 40, 41, 64, 256, Integer.MAX_VALUE, Integer.MIN_VALUE}) {
+            for (int i : new int[] {-1, length, length + 1, 39, 40, 41, 64, 256, Integer.MAX_VALUE,
+                    Integer.MIN_VALUE}) {
                 check.due("content of " + text + " at " + i, sheet.content(63, i), -1);
             }
         }
@@ -470,7 +478,8 @@ public final class CallEdgesTest {
         check.says("as the sum of 2^n for cells n (2^63 being the least long); 0 when there is no such cell");
         for (int cell = 0; cell < 64; cell++) {
             String other = cell == 63 ? "A1" : "H8";
-            check.due("refers to " + Sheet.name(cell), new Sheet().with(other, "=" + Sheet.name(cell)).refers(Sheet.cell(other)), 1L << cell);
+            check.due("refers to " + Sheet.name(cell), new Sheet()
+                    .with(other, "=" + Sheet.name(cell)).refers(Sheet.cell(other)), 1L << cell);
         }
         Sheet sheet = new Sheet().with("A1", "=H8");
         check.due("2^63", sheet.refers(0), Long.MIN_VALUE);

@@ -83,7 +83,8 @@ public final class GrammarEdgesTest {
         takenBetween("=", DIGITS + "-" + LETTERS, "1");
         takenBetween("=A", "12345678", "");
         takenBetween("=H", "12345678", "");
-        allRefused("=@1", "=I1", "=Z1", "=a1", "=h8", "=A0", "=A9", "=A:", "=A/", "=A", "=H", "=1A", "=AA", "=A1A", "=A11", "=A01");
+        allRefused("=@1", "=I1", "=Z1", "=a1", "=h8", "=A0", "=A9", "=A:", "=A/", "=A", "=H", "=1A", "=AA", "=A1A",
+                "=A11", "=A01");
         allRefused("=SUM(@1:A1)", "=SUM(A1:I1)", "=SUM(A1:A9)", "=SUM(A0:A1)", "=SUM(I8:H8)", "=SUM(A9:A8)");
     }
 
@@ -119,8 +120,8 @@ public final class GrammarEdgesTest {
         takenBetween("1", DIGITS, "1");
         takenBetween("-1", DIGITS, "1");
         allTaken("-0", "0", "00", "-1", "=-1");
-        allRefused("-", "--", "--1", "-=1", "=", "==", "==1", "=-", "1-", "1=", "1=1", "1+1", "1*1", "-1-1", "(1)", "A1", "-A1",
-                "SUM(1)", "IF(1,2,3)", "-(1)");
+        allRefused("-", "--", "--1", "-=1", "=", "==", "==1", "=-", "1-", "1=", "1=1", "1+1", "1*1", "-1-1", "(1)",
+                "A1", "-A1", "SUM(1)", "IF(1,2,3)", "-(1)");
     }
 
     private static void oneToNineDigits() {
@@ -129,7 +130,8 @@ public final class GrammarEdgesTest {
             String nines = "9".repeat(length);
             String zeros = "0".repeat(length);
             allTaken(nines, "-" + nines, "=" + nines, "=-" + nines, zeros, "-" + zeros, "=" + zeros);
-            Sheet sheet = new Sheet().with("A1", nines).with("B1", "-" + nines).with("C1", "=" + nines).with("D1", "0".repeat(length - 1) + "8");
+            Sheet sheet = new Sheet().with("A1", nines).with("B1", "-" + nines).with("C1", "=" + nines)
+                    .with("D1", "0".repeat(length - 1) + "8");
             check.due(nines, sheet.shows("A1"), nines);
             check.due("-" + nines, sheet.shows("B1"), "-" + nines);
             check.due("=" + nines, sheet.shows("C1"), nines);
@@ -140,9 +142,11 @@ public final class GrammarEdgesTest {
 
     private static void aTenthDigitIsOneTooMany() {
         check.says("Digits are read as far as there are any: a tenth digit is one too many");
-        for (String ten : new String[] {"1234567890", "0000000000", "0000000001", "9999999999", "01234567890", "2147483648"}) {
-            allRefused(ten, "-" + ten, "=" + ten, "=-" + ten, "=1+" + ten, "=" + ten + "+1", "=(" + ten + ")", "=1<" + ten,
-                    "=SUM(" + ten + ")", "=SUM(1," + ten + ")", "=IF(" + ten + ",2,3)", "=IF(1," + ten + ",3)", "=IF(1,2," + ten + ")");
+        for (String ten : new String[] {"1234567890", "0000000000", "0000000001", "9999999999", "01234567890",
+                "2147483648"}) {
+            allRefused(ten, "-" + ten, "=" + ten, "=-" + ten, "=1+" + ten, "=" + ten + "+1", "=(" + ten + ")",
+                    "=1<" + ten, "=SUM(" + ten + ")", "=SUM(1," + ten + ")", "=IF(" + ten + ",2,3)",
+                    "=IF(1," + ten + ",3)", "=IF(1,2," + ten + ")");
         }
         allTaken("=123456789+123456789", "=IF(123456789,123456789,123456789)", "=SUM(123456789,123456789)");
         allRefused("0".repeat(40), "=" + "0".repeat(39), "=A12", "=A1234567890");
@@ -152,8 +156,9 @@ public final class GrammarEdgesTest {
         check.says("EXPRESSION: SUM [ (<> | <= | >= | < | > | =) SUM ]");
         String[] comparisons = {"<>", "<=", ">=", "<", ">", "="};
         for (String one : comparisons) {
-            allTaken("=1" + one + "2", "=1" + one + "-2", "=1+1" + one + "2*2", "=SUM(1" + one + "2)", "=IF(1" + one + "2,3,4)",
-                    "=IF(1,2" + one + "3,4)", "=IF(1,2,3" + one + "4)", "=(1" + one + "2)", "=-(1" + one + "2)");
+            allTaken("=1" + one + "2", "=1" + one + "-2", "=1+1" + one + "2*2", "=SUM(1" + one + "2)",
+                    "=IF(1" + one + "2,3,4)", "=IF(1,2" + one + "3,4)", "=IF(1,2,3" + one + "4)", "=(1" + one + "2)",
+                    "=-(1" + one + "2)");
             allRefused("=" + one + "1", "=1" + one, "=" + one, "=1+" + one + "2", "=1" + one + "+2", "=1" + one + "*2");
             for (String other : comparisons) {
                 refused("=1" + one + "2" + other + "3");
@@ -171,8 +176,10 @@ public final class GrammarEdgesTest {
         takenBetween("=1<>", "-" + DIGITS + LETTERS, "1");
         takenBetween("=1<=", "-" + DIGITS + LETTERS, "1");
         takenBetween("=1>=", "-" + DIGITS + LETTERS, "1");
-        allRefused("=1=<2", "=1=>2", "=1><2", "=1<<2", "=1>>2", "=1==2", "=1<>=2", "=1<=>2", "=1>=<2", "=1<=", "=1>=", "=1<>", "=1< =2", "=1> =2", "=1< >2");
-        Sheet sheet = new Sheet().with("A1", "=1<>1").with("B1", "=1<=1").with("C1", "=1>=1").with("D1", "=2<>1").with("E1", "=2<=1").with("F1", "=1>=2");
+        allRefused("=1=<2", "=1=>2", "=1><2", "=1<<2", "=1>>2", "=1==2", "=1<>=2", "=1<=>2", "=1>=<2", "=1<=", "=1>=",
+                "=1<>", "=1< =2", "=1> =2", "=1< >2");
+        Sheet sheet = new Sheet().with("A1", "=1<>1").with("B1", "=1<=1").with("C1", "=1>=1").with("D1", "=2<>1")
+                .with("E1", "=2<=1").with("F1", "=1>=2");
         check.due("1<>1", sheet.shows("A1"), "0");
         check.due("1<=1", sheet.shows("B1"), "1");
         check.due("1>=1", sheet.shows("C1"), "1");
@@ -197,7 +204,8 @@ public final class GrammarEdgesTest {
         check.says("PRODUCT: FACTOR ( (* | / | %) FACTOR )*");
         for (int more = 0; more <= 19; more++) {
             allTaken("=2" + "*2".repeat(more), "=1" + "/1".repeat(more), "=1" + "%2".repeat(more));
-            Sheet sheet = new Sheet().with("A1", "=2" + "*2".repeat(more)).with("B1", "=1" + "/1".repeat(more)).with("C1", "=5" + "%7".repeat(more));
+            Sheet sheet = new Sheet().with("A1", "=2" + "*2".repeat(more)).with("B1", "=1" + "/1".repeat(more))
+                    .with("C1", "=5" + "%7".repeat(more));
             check.due(more + " times *2", sheet.shows("A1"), String.valueOf(2L << more));
             check.due(more + " times /1", sheet.shows("B1"), "1");
             check.due(more + " times %7", sheet.shows("C1"), "5");
@@ -214,7 +222,8 @@ public final class GrammarEdgesTest {
             taken(text);
             check.due("the value of " + text, new Sheet().with("A1", text).shows("A1"), minuses % 2 == 0 ? "1" : "-1");
         }
-        allTaken("=-A1", "=--A1", "=-(1)", "=-IF(1,2,3)", "=--SUM(1)", "=1--1", "=1---1", "=1*--1", "=1<--1", "=SUM(--1)", "=IF(-1,-2,-3)");
+        allTaken("=-A1", "=--A1", "=-(1)", "=-IF(1,2,3)", "=--SUM(1)", "=1--1", "=1---1", "=1*--1", "=1<--1",
+                "=SUM(--1)", "=IF(-1,-2,-3)");
         allRefused("=" + "-".repeat(39), "=-", "=--", "=1-", "=1--", "=-+1", "=-*1", "=-)", "=(-)", "=SUM(-)", "=-,1");
     }
 
@@ -223,15 +232,17 @@ public final class GrammarEdgesTest {
         takenBetween("=", "(", "1)");
         takenBetween("=(1", ")", "");
         allTaken("=(1)", "=((1))", "=(A1)", "=(1)+(2)", "=((1)+(2))", "=(1<2)", "=(-1)", "=(1)*(2)<(3)");
-        allRefused("=(", "=)", "=()", "=(1", "=1)", "=((1)", "=(1))", "=)1(", "=(1)(2)", "=1(2)", "=(1)2", "=A1(2)", "=(1,2)", "=(1+)", "=-()", "=(()", "=())",
-                "=(1)+(2", "=(1)+2)", "(1)", "=[1]", "={1}");
+        allRefused("=(", "=)", "=()", "=(1", "=1)", "=((1)", "=(1))", "=)1(", "=(1)(2)", "=1(2)", "=(1)2", "=A1(2)",
+                "=(1,2)", "=(1+)", "=-()", "=(()", "=())", "=(1)+(2", "=(1)+2)", "(1)", "=[1]", "={1}");
     }
 
     private static void ifHasThree() {
         check.says("IF \"(\" EXPRESSION , EXPRESSION , EXPRESSION \")\"");
-        allTaken("=IF(1,2,3)", "=IF(1<2,3<4,5<6)", "=IF(A1,B1,C1)", "=IF((1),(2),(3))", "=IF(IF(1,2,3),IF(1,2,3),IF(1,2,3))", "=IF(-1,-2,-3)", "=1+IF(1,2,3)*2");
-        allRefused("=IF", "=IF(", "=IF()", "=IF(,)", "=IF(,,)", "=IF(1)", "=IF(1,)", "=IF(1,2)", "=IF(1,2,)", "=IF(1,,3)", "=IF(,2,3)", "=IF(1,2,3,4)",
-                "=IF(1,2,3,)", "=IF(1,2,3", "=IF1,2,3", "=IF1", "=IF,", "=IF(1;2;3)", "=IF(1,2 3)", "=IF(1,2,3))", "=IF(1,2,3)4", "=IF(1,2,3)IF(1,2,3)", "=IF((1,2,3))");
+        allTaken("=IF(1,2,3)", "=IF(1<2,3<4,5<6)", "=IF(A1,B1,C1)", "=IF((1),(2),(3))",
+                "=IF(IF(1,2,3),IF(1,2,3),IF(1,2,3))", "=IF(-1,-2,-3)", "=1+IF(1,2,3)*2");
+        allRefused("=IF", "=IF(", "=IF()", "=IF(,)", "=IF(,,)", "=IF(1)", "=IF(1,)", "=IF(1,2)", "=IF(1,2,)",
+                "=IF(1,,3)", "=IF(,2,3)", "=IF(1,2,3,4)", "=IF(1,2,3,)", "=IF(1,2,3", "=IF1,2,3", "=IF1", "=IF,",
+                "=IF(1;2;3)", "=IF(1,2 3)", "=IF(1,2,3))", "=IF(1,2,3)4", "=IF(1,2,3)IF(1,2,3)", "=IF((1,2,3))");
         takenBetween("=IF(1", ",", "2,3)");
         takenBetween("=IF(1,2,3", ")", "");
     }
@@ -240,27 +251,33 @@ public final class GrammarEdgesTest {
         check.says("(SUM | MIN | MAX | COUNT) \"(\" ARGUMENT ( , ARGUMENT )* \")\"");
         for (String name : new String[] {"SUM", "MIN", "MAX", "COUNT"}) {
             String open = "=" + name + "(";
-            allRefused(open, open + ")", open + ",)", open + ",1)", open + "1,)", open + "1,,2)", open + "1", open + "1,2", "=" + name, "=" + name + "1",
-                    open + "1))", open + "1)2", "=" + name + ")", "=" + name + "()()", open + "1;2)", open + "A1:B2", open + "A1:B2,)", open + ",A1:B2)");
+            allRefused(open, open + ")", open + ",)", open + ",1)", open + "1,)", open + "1,,2)", open + "1",
+                    open + "1,2", "=" + name, "=" + name + "1", open + "1))", open + "1)2", "=" + name + ")",
+                    "=" + name + "()()", open + "1;2)", open + "A1:B2", open + "A1:B2,)", open + ",A1:B2)");
             int most = (40 - open.length()) / 2;
             for (int arguments = 1; arguments <= most; arguments++) {
                 String text = open + "1,".repeat(arguments - 1) + "1)";
                 taken(text);
                 boolean adds = name.equals("SUM") || name.equals("COUNT");
-                check.due("the value of " + text, new Sheet().with("A1", text).shows("A1"), adds ? String.valueOf(arguments) : "1");
+                check.due("the value of " + text, new Sheet().with("A1", text).shows("A1"), adds
+                        ? String.valueOf(arguments) : "1");
             }
-            allTaken(open + "A1)", open + "A1:A1)", open + "A1:B2,C3:D4,E5:F6)", open + "1,A1:B2,2)", open + "1<2,(3),-4)", "=-" + name + "(1)");
+            allTaken(open + "A1)", open + "A1:A1)", open + "A1:B2,C3:D4,E5:F6)", open + "1,A1:B2,2)",
+                    open + "1<2,(3),-4)", "=-" + name + "(1)");
             takenBetween(open + "1", ")", "");
         }
     }
 
     private static void rangesAreArgumentsAlone() {
         check.says("ARGUMENT: NAME : NAME | EXPRESSION");
-        allRefused("=A1:B2", "=(A1:B2)", "=-A1:B2", "=1+A1:B2", "=A1:B2+1", "=A1:B2=1", "=IF(A1:B2,1,2)", "=IF(1,A1:B2,2)", "=IF(1,2,A1:B2)");
-        allRefused("=SUM((A1:B2))", "=SUM(-A1:B2)", "=SUM(A1:B2+1)", "=SUM(1+A1:B2)", "=SUM(A1:B2*2)", "=SUM(A1:B2<1)", "=SUM(1<A1:B2)",
-                "=SUM(A1:B2:C3)", "=SUM(A1:)", "=SUM(:B2)", "=SUM(:)", "=SUM(A1::B2)", "=SUM(A1:1)", "=SUM(11:B2)", "=SUM(1:2)", "=SUM(A1:B)",
-                "=SUM(A:B)", "=SUM(A1:B22)", "=SUM(A11:B2)", "=SUM(A1:-B2)", "=SUM(A1:(B2))", "=SUM((A1):B2)", "=SUM(A1 :B2)", "=SUM(A1: B2)",
-                "=SUM(A1:SUM(B2))", "=SUM(IF(1,A1:B2,2))", "=SUM(-1:B2)", "=SUM(A1:B2(1))", "=SUM(A1:B21)", "=SUM(1,A1:)", "=SUM(A1:B2,C1:)");
+        allRefused("=A1:B2", "=(A1:B2)", "=-A1:B2", "=1+A1:B2", "=A1:B2+1", "=A1:B2=1", "=IF(A1:B2,1,2)",
+                "=IF(1,A1:B2,2)", "=IF(1,2,A1:B2)");
+        allRefused("=SUM((A1:B2))", "=SUM(-A1:B2)", "=SUM(A1:B2+1)", "=SUM(1+A1:B2)", "=SUM(A1:B2*2)", "=SUM(A1:B2<1)",
+                "=SUM(1<A1:B2)", "=SUM(A1:B2:C3)", "=SUM(A1:)", "=SUM(:B2)", "=SUM(:)", "=SUM(A1::B2)", "=SUM(A1:1)",
+                "=SUM(11:B2)", "=SUM(1:2)", "=SUM(A1:B)", "=SUM(A:B)", "=SUM(A1:B22)", "=SUM(A11:B2)", "=SUM(A1:-B2)",
+                "=SUM(A1:(B2))", "=SUM((A1):B2)", "=SUM(A1 :B2)", "=SUM(A1: B2)", "=SUM(A1:SUM(B2))",
+                "=SUM(IF(1,A1:B2,2))", "=SUM(-1:B2)", "=SUM(A1:B2(1))", "=SUM(A1:B21)", "=SUM(1,A1:)",
+                "=SUM(A1:B2,C1:)");
         takenBetween("=SUM(A1", "+-*/%<>=,:", "B2)");
         takenBetween("=SUM(A1:", LETTERS, "1)");
         takenBetween("=SUM(A1:A", "12345678", ")");
@@ -272,14 +289,16 @@ public final class GrammarEdgesTest {
 
     private static void nothingElse() {
         check.says("There is nothing else in it, no blanks");
-        for (String text : new String[] {"12", "-12", "=1+A1", "=IF(1,2,3)", "=SUM(A1:B2,-3)", "=1<>2", "=(COUNT(1))"}) {
+        for (String text : new String[] {"12", "-12", "=1+A1", "=IF(1,2,3)", "=SUM(A1:B2,-3)", "=1<>2",
+                "=(COUNT(1))"}) {
             for (int at = 0; at <= text.length(); at++) {
                 for (char c : " !\"#$&';?@IJZ[\\]^_`abz{|}~.".toCharArray()) {
                     refused(text.substring(0, at) + c + text.substring(at));
                 }
             }
         }
-        allRefused(" ", "  ", " ".repeat(40), "= ", "=1 ", " =1", "- 1", "1 2", "=1 2", "=A 1", "=I F(1,2,3)", "=1< =2", "=1.5", "=1E3", "1.0", "1,5", "=TRUE");
+        allRefused(" ", "  ", " ".repeat(40), "= ", "=1 ", " =1", "- 1", "1 2", "=1 2", "=A 1", "=I F(1,2,3)", "=1< =2",
+                "=1.5", "=1E3", "1.0", "1,5", "=TRUE");
     }
 
     /** Each character of the words matters: any other one in its place is refused. */
@@ -291,7 +310,8 @@ public final class GrammarEdgesTest {
                 refused(text.substring(0, at) + text.substring(at + 1));
             }
         }
-        allRefused("=sum(1)", "=Sum(1)", "=if(1,2,3)", "=AVG(1)", "=SUMM(1)", "=SSUM(1)", "=COUNTS(1)", "=MINMAX(1)", "=ISUM(1)", "=SU", "=COUN", "=M", "=I", "=C");
+        allRefused("=sum(1)", "=Sum(1)", "=if(1,2,3)", "=AVG(1)", "=SUMM(1)", "=SSUM(1)", "=COUNTS(1)", "=MINMAX(1)",
+                "=ISUM(1)", "=SU", "=COUN", "=M", "=I", "=C");
     }
 
     private static String nested(String before, int deep, String behind) {
@@ -309,13 +329,15 @@ public final class GrammarEdgesTest {
             }
         }
         for (String[] around : new String[][] {
-            {"=SUM(", ")"}, {"=MIN(", ")"}, {"=MAX(", ")"}, {"=COUNT(", ")"}, {"=SUM(1,", ")"}, {"=SUM(", ",1)"}, {"=IF(", ",1,1)"}, {"=IF(1,", ",1)"},
-            {"=IF(1,1,", ")"}, {"=SUM(A1:A2,", ")"}, {"=1+(", "+1)"}, {"=-(-", ")"}, {"=(1<", ")"}, {"=(2*", ")"},
+            {"=SUM(", ")"}, {"=MIN(", ")"}, {"=MAX(", ")"}, {"=COUNT(", ")"}, {"=SUM(1,", ")"}, {"=SUM(", ",1)"},
+            {"=IF(", ",1,1)"}, {"=IF(1,", ",1)"}, {"=IF(1,1,", ")"}, {"=SUM(A1:A2,", ")"}, {"=1+(", "+1)"},
+            {"=-(-", ")"}, {"=(1<", ")"}, {"=(2*", ")"},
         }) {
             taken(nested(around[0], 7, around[1]));
             refused(nested(around[0], 8, around[1]));
         }
-        for (String inner : new String[] {"SUM(1)", "MIN(1)", "MAX(1)", "COUNT(1)", "SUM(A1:B2)", "IF(1,2,3)", "IF(0,2,3)", "(1)", "-(1)"}) {
+        for (String inner : new String[] {"SUM(1)", "MIN(1)", "MAX(1)", "COUNT(1)", "SUM(A1:B2)", "IF(1,2,3)",
+                "IF(0,2,3)", "(1)", "-(1)"}) {
             taken("=" + "(".repeat(7) + inner + ")".repeat(7));
             refused("=" + "(".repeat(8) + inner + ")".repeat(8));
         }
@@ -323,11 +345,15 @@ public final class GrammarEdgesTest {
         taken("=SUM(SUM(SUM(SUM(SUM(SUM(((1))))))))");
         refused("=SUM(SUM(SUM(SUM(SUM(SUM((((1)))))))))");
         // Side by side is not inside one another.
-        allTaken(nested("=", 8, "") + nested("+", 8, ""), "=" + "(1)+".repeat(9) + "1", nested("=SUM(", 7, ",") + nested("", 7, ")"));
-        allRefused(nested("=", 8, "") + nested("+", 9, ""), nested("=", 9, "") + nested("+", 8, ""), nested("=SUM(", 7, ",") + nested("", 8, ")"));
-        allRefused("=" + "(".repeat(39), "=" + "SUM(".repeat(9) + "1", "=" + "IF(".repeat(13), "=" + "(".repeat(8), "=" + "(".repeat(9));
+        allTaken(nested("=", 8, "") + nested("+", 8, ""), "=" + "(1)+".repeat(9) + "1",
+                nested("=SUM(", 7, ",") + nested("", 7, ")"));
+        allRefused(nested("=", 8, "") + nested("+", 9, ""), nested("=", 9, "") + nested("+", 8, ""),
+                nested("=SUM(", 7, ",") + nested("", 8, ")"));
+        allRefused("=" + "(".repeat(39), "=" + "SUM(".repeat(9) + "1", "=" + "IF(".repeat(13), "=" + "(".repeat(8),
+                "=" + "(".repeat(9));
         check.due("the value of eight", new Sheet().with("A1", nested("=-", 8, "")).shows("A1"), "-1");
-        check.due("the value of eight with functions", new Sheet().with("A1", "=SUM(1,SUM(1,SUM(1,SUM(1,((((1))))))))").shows("A1"), "5");
+        check.due("the value of eight with functions", new Sheet()
+                .with("A1", "=SUM(1,SUM(1,SUM(1,SUM(1,((((1))))))))").shows("A1"), "5");
     }
 
     private static void refersTo(String text, long cells) {
@@ -371,7 +397,8 @@ public final class GrammarEdgesTest {
                 cells |= row && column ? 1L << cell : 0;
             }
             String free = Sheet.name(Long.numberOfTrailingZeros(~cells));
-            for (String text : new String[] {Sheet.name(one) + ":" + Sheet.name(other), Sheet.name(other) + ":" + Sheet.name(one)}) {
+            for (String text : new String[] {Sheet.name(one) + ":" + Sheet.name(other),
+                    Sheet.name(other) + ":" + Sheet.name(one)}) {
                 check.due(text, new Sheet().with(free, "=COUNT(" + text + ")").refers(Sheet.cell(free)), cells);
             }
         }

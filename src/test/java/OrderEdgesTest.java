@@ -98,7 +98,8 @@ public final class OrderEdgesTest {
 
     private static void andSoOn() {
         check.says("refers to, and so on; refer to it, and so on");
-        Sheet sheet = new Sheet().with("F1", "=E1").with("G1", "=F1").with("B1", "=A1").with("C1", "=B1").with("A1", "=G1");
+        Sheet sheet = new Sheet().with("F1", "=E1").with("G1", "=F1").with("B1", "=A1").with("C1", "=B1")
+                .with("A1", "=G1");
         check.due("three and three, D1 between them", sheet.places(FIRST_ROW), "4 5 6 3 0 1 2 7");
         // The way from H1 to D1 leads over E1 alone, and from A1 to C1 over B1.
         sheet = new Sheet().with("E1", "=D1").with("H1", "=E1").with("B1", "=A1").with("C1", "=B1").with("A1", "=H1");
@@ -165,8 +166,9 @@ public final class OrderEdgesTest {
     private static void everyCellStandsBehind() {
         check.says("After that every cell stands behind all that it refers to");
         String[][] all = {
-            {"A1", "=H8+B2"}, {"B2", "=SUM(C3:D4)"}, {"C3", "=H7"}, {"H8", "=G8+F8"}, {"D4", "=C4+C3"}, {"A2", "=A1*A1"}, {"H7", "=E5"},
-            {"E5", "=SUM(F6:G7)"}, {"G8", "=A8"}, {"F6", "=H1"}, {"B1", "=A2+H8"}, {"A8", "=H2"}, {"H1", "=B8"}, {"B8", "=A8"}, {"C4", "=SUM(E5:F8)"},
+            {"A1", "=H8+B2"}, {"B2", "=SUM(C3:D4)"}, {"C3", "=H7"}, {"H8", "=G8+F8"}, {"D4", "=C4+C3"},
+            {"A2", "=A1*A1"}, {"H7", "=E5"}, {"E5", "=SUM(F6:G7)"}, {"G8", "=A8"}, {"F6", "=H1"}, {"B1", "=A2+H8"},
+            {"A8", "=H2"}, {"H1", "=B8"}, {"B8", "=A8"}, {"C4", "=SUM(E5:F8)"},
         };
         Sheet sheet = new Sheet();
         for (String[] one : all) {
@@ -176,14 +178,16 @@ public final class OrderEdgesTest {
         boolean[] taken = new boolean[64];
         for (int cell = 0; cell < 64; cell++) {
             places[cell] = sheet.place(cell);
-            check.due("a place of its own for " + cell, places[cell] >= 0 && places[cell] < 64 && !taken[places[cell]], true);
+            check.due("a place of its own for " + cell, places[cell] >= 0 && places[cell] < 64 && !taken[places[cell]],
+                    true);
             taken[places[cell]] = true;
         }
         for (int cell = 0; cell < 64; cell++) {
             long cells = sheet.refers(cell);
             for (int other = 0; other < 64; other++) {
                 if ((cells >>> other & 1) != 0) {
-                    check.due(Sheet.name(cell) + " stands behind " + Sheet.name(other), places[cell] > places[other], true);
+                    check.due(Sheet.name(cell) + " stands behind " + Sheet.name(other), places[cell] > places[other],
+                            true);
                 }
             }
         }
@@ -228,7 +232,8 @@ public final class OrderEdgesTest {
 
     private static void onlyWhatRefersToAChangedOne() {
         check.says("the cell is WORKED OUT, and .. each cell that refers to one whose value has become another one thereby");
-        Sheet sheet = new Sheet().with("A1", "1").with("B1", "=A1>0").with("C1", "=B1").with("D1", "=A1").with("E1", "=C1+D1").with("F1", "=IF(1,2,A1)");
+        Sheet sheet = new Sheet().with("A1", "1").with("B1", "=A1>0").with("C1", "=B1").with("D1", "=A1")
+                .with("E1", "=C1+D1").with("F1", "=IF(1,2,A1)");
         check.due("changed by the same value", sheet.enter("A1", "=2-1"), "0");
         check.due("worked by the same value", sheet.worked(), 1);
         check.due("changed by another one", sheet.enter("A1", "2"), "3");
@@ -245,7 +250,8 @@ public final class OrderEdgesTest {
 
     private static void eachOnceInTheOrderOfPlaces() {
         check.says("in the order of their places");
-        Sheet sheet = new Sheet().with("D1", "1").with("C1", "=D1").with("B1", "=-D1").with("A1", "=B1+C1").with("H1", "=A1");
+        Sheet sheet = new Sheet().with("D1", "1").with("C1", "=D1").with("B1", "=-D1").with("A1", "=B1+C1")
+                .with("H1", "=A1");
         check.due("changed", sheet.enter("D1", "2"), "3");
         check.due("A1 once, with both sides new", sheet.worked(), 4);
         check.due("A1 stays", sheet.shows("A1"), "0");
@@ -379,7 +385,8 @@ public final class OrderEdgesTest {
                 check.due("log behind it", sheet.log(), kept - back);
             }
             check.due("no more of " + changes, sheet.undo(), Sheet.ELEMENT);
-            check.due("what is left of " + changes, sheet.shows("A1"), changes <= 20 ? "empty" : String.valueOf(changes - 20));
+            check.due("what is left of " + changes, sheet.shows("A1"), changes <= 20
+                    ? "empty" : String.valueOf(changes - 20));
         }
         Sheet sheet = new Sheet();
         for (int cell = 0; cell < 30; cell++) {

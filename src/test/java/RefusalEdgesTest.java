@@ -21,7 +21,8 @@ public final class RefusalEdgesTest {
 
     /** Numbers, errors, moved places, a log with some entries, changed cells, and something typed. */
     private static Sheet lived(String typed) {
-        Sheet sheet = new Sheet().with("A1", "=H8").with("B1", "=A1/C1").with("H8", "6").with("D1", "=SUM(A1:C1)").with("E1", "=MIN(G1:H1)").with("C1", "2");
+        Sheet sheet = new Sheet().with("A1", "=H8").with("B1", "=A1/C1").with("H8", "6").with("D1", "=SUM(A1:C1)")
+                .with("E1", "=MIN(G1:H1)").with("C1", "2");
         sheet.type(typed);
         return sheet;
     }
@@ -77,7 +78,8 @@ public final class RefusalEdgesTest {
             check.due(what + ": worked by undo " + i, one.worked(), other.worked());
             check.due(what + ": log behind undo " + i, one.log(), other.log());
         }
-        check.due(what + ": the places then", one.places("A1 B1 C1 D1 E1 F1 G1 H1 H8"), other.places("A1 B1 C1 D1 E1 F1 G1 H1 H8"));
+        check.due(what + ": the places then", one.places("A1 B1 C1 D1 E1 F1 G1 H1 H8"),
+                other.places("A1 B1 C1 D1 E1 F1 G1 H1 H8"));
         check.due(what + ": what comes then", one.enter("C1", "=A1"), other.enter("C1", "=A1"));
     }
 
@@ -87,19 +89,24 @@ public final class RefusalEdgesTest {
             leavesEverything("enter(" + cell + ")", "=D1", "", Sheet.ARGUMENT, sheet -> sheet.enter(cell));
         }
         String[][] texts = {
-            {"", "7"}, {"=", "D1"}, {"-", "7"}, {"=H8+", "1"}, {"=SUM(A1:H1", ")"}, {"=IF(A1,B1", ",1)"}, {"=((((((((1", "))))))))"}, {"=" + "A1+".repeat(12), "H8"},
-            {"=G1+1234567890", null}, {"=(((((((((1)))))))))", null}, {"12 ", null}, {"=" + "A1+".repeat(13), null},
+            {"", "7"}, {"=", "D1"}, {"-", "7"}, {"=H8+", "1"}, {"=SUM(A1:H1", ")"}, {"=IF(A1,B1", ",1)"},
+            {"=((((((((1", "))))))))"}, {"=" + "A1+".repeat(12), "H8"}, {"=G1+1234567890", null},
+            {"=(((((((((1)))))))))", null}, {"12 ", null}, {"=" + "A1+".repeat(13), null},
         };
         for (String[] text : texts) {
-            leavesEverything("enter '" + text[0] + "' into an empty cell", text[0], text[1], Sheet.ARGUMENT, sheet -> sheet.enter(Sheet.cell("F1")));
-            leavesEverything("enter '" + text[0] + "' into a full cell", text[0], text[1], Sheet.ARGUMENT, sheet -> sheet.enter(Sheet.cell("A1")));
+            leavesEverything("enter '" + text[0] + "' into an empty cell", text[0], text[1], Sheet.ARGUMENT,
+                    sheet -> sheet.enter(Sheet.cell("F1")));
+            leavesEverything("enter '" + text[0] + "' into a full cell", text[0], text[1], Sheet.ARGUMENT,
+                    sheet -> sheet.enter(Sheet.cell("A1")));
         }
         leavesEverything("H8 to itself", "=H8", "", Sheet.STATE, sheet -> sheet.enter(Sheet.cell("H8")));
         leavesEverything("an empty cell to itself", "=F1", "", Sheet.STATE, sheet -> sheet.enter(Sheet.cell("F1")));
         leavesEverything("a round of two", "=A1", "", Sheet.STATE, sheet -> sheet.enter(Sheet.cell("H8")));
         leavesEverything("a round of three", "=D1", "", Sheet.STATE, sheet -> sheet.enter(Sheet.cell("H8")));
-        leavesEverything("a round by a range", "=SUM(G7:H8,D1:D1)", "", Sheet.STATE, sheet -> sheet.enter(Sheet.cell("C1")));
-        leavesEverything("a round behind good ones", "=F1+G1+H1+B1", "", Sheet.STATE, sheet -> sheet.enter(Sheet.cell("A1")));
+        leavesEverything("a round by a range", "=SUM(G7:H8,D1:D1)", "", Sheet.STATE,
+                sheet -> sheet.enter(Sheet.cell("C1")));
+        leavesEverything("a round behind good ones", "=F1+G1+H1+B1", "", Sheet.STATE,
+                sheet -> sheet.enter(Sheet.cell("A1")));
     }
 
     private static void clearThrows() {
@@ -146,11 +153,13 @@ public final class RefusalEdgesTest {
         leavesEverything("type none", "=D1", "", "-1", sheet -> String.valueOf(sheet.type(0x31, 0)));
         leavesEverything("type nine", "=D1", "", "-1", sheet -> String.valueOf(sheet.type(0x3131_3131_3131_3131L, 9)));
         leavesEverything("type a wrong one", "=D1", "", "-1", sheet -> String.valueOf(sheet.type(0x311F, 2)));
-        leavesEverything("type too many", "=" + "1+".repeat(16), "1", "-1", sheet -> String.valueOf(sheet.type(0x3131_3131_3131_3131L, 8)));
+        leavesEverything("type too many", "=" + "1+".repeat(16), "1", "-1",
+                sheet -> String.valueOf(sheet.type(0x3131_3131_3131_3131L, 8)));
         check.says("0, and no change is made, when it was empty");
         leavesEverything("clear an empty one", "=D1", "", "0", sheet -> sheet.clear("F1"));
         check.says("BAD when there is none");
-        leavesEverything("look at what there is not", "=D1", "", "-1 -1 -1 -1 0", sheet -> sheet.kind(64) + " " + sheet.place(-1) + " " + sheet.content(0, 3)
+        leavesEverything("look at what there is not", "=D1", "", "-1 -1 -1 -1 0",
+                sheet -> sheet.kind(64) + " " + sheet.place(-1) + " " + sheet.content(0, 3)
                 + " " + sheet.changed(64) + " " + sheet.refers(64));
     }
 

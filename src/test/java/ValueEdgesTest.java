@@ -32,7 +32,8 @@ public final class ValueEdgesTest {
 
     /** A1 is error 1, B1 error 2, C1 the least long, D1 the greatest, E1 2^32, F1 0; all else but G8 is empty. */
     private static Sheet prepared() {
-        return new Sheet().with("A1", "=1/0").with("B1", "=MIN(H8:H8)").with("C1", "=65536*65536*65536*32768").with("D1", "=C1-1")
+        return new Sheet().with("A1", "=1/0").with("B1", "=MIN(H8:H8)").with("C1", "=65536*65536*65536*32768")
+                .with("D1", "=C1-1")
                 .with("E1", "=65536*65536").with("F1", "0");
     }
 
@@ -165,7 +166,8 @@ public final class ValueEdgesTest {
     private static void byZero() {
         check.says("error 1 if the right one is 0");
         for (String left : new String[] {"0", "1", "-1", "C1", "D1", "G1", "F1", "(1-1)"}) {
-            for (String right : new String[] {"0", "-0", "000", "F1", "G1", "(1-1)", "-F1", "SUM(G1:H1)", "COUNT(G1:H1)", "(1<0)", "(C1+C1)", "(E1*E1)"}) {
+            for (String right : new String[] {"0", "-0", "000", "F1", "G1", "(1-1)", "-F1", "SUM(G1:H1)",
+                    "COUNT(G1:H1)", "(1<0)", "(C1+C1)", "(E1*E1)"}) {
                 works("=" + left + "/" + right, "error 1");
                 works("=" + left + "%" + right, "error 1");
             }
@@ -183,9 +185,10 @@ public final class ValueEdgesTest {
     private static void comparisonsAtTheirEdges() {
         check.says("a comparison is 1 if it holds, otherwise 0");
         String[][] pairs = {
-            {"1", "2"}, {"2", "2"}, {"2", "1"}, {"-1", "0"}, {"0", "0"}, {"0", "-1"}, {"-1", "1"}, {"1", "-1"}, {"C1", "D1"}, {"D1", "C1"}, {"C1", "C1"},
-            {"D1", "D1"}, {"C1", "-1"}, {"D1", "-1"}, {"C1", "1"}, {"1", "C1"}, {"-1", "D1"}, {"0", "C1"}, {"0", "E1"}, {"E1", "0"}, {"E1+1", "1"}, {"G1", "0"},
-            {"0", "G1"}, {"G1", "H1"}, {"1", "G1"}, {"D1-1", "D1"}, {"C1+1", "C1"}, {"G1", "-1"},
+            {"1", "2"}, {"2", "2"}, {"2", "1"}, {"-1", "0"}, {"0", "0"}, {"0", "-1"}, {"-1", "1"}, {"1", "-1"},
+            {"C1", "D1"}, {"D1", "C1"}, {"C1", "C1"}, {"D1", "D1"}, {"C1", "-1"}, {"D1", "-1"}, {"C1", "1"},
+            {"1", "C1"}, {"-1", "D1"}, {"0", "C1"}, {"0", "E1"}, {"E1", "0"}, {"E1+1", "1"}, {"G1", "0"}, {"0", "G1"},
+            {"G1", "H1"}, {"1", "G1"}, {"D1-1", "D1"}, {"C1+1", "C1"}, {"G1", "-1"},
         };
         for (String[] pair : pairs) {
             int sign = Long.compare(number(pair[0]), number(pair[1]));
@@ -272,11 +275,13 @@ public final class ValueEdgesTest {
 
     private static void ifNotZero() {
         check.says("if it is not 0, the second, otherwise the third");
-        for (String test : new String[] {"1", "-1", "2", "C1", "D1", "E1", "-E1", "E1*65536", "1=1", "(1)", "COUNT(1)", "--1", "999999999"}) {
+        for (String test : new String[] {"1", "-1", "2", "C1", "D1", "E1", "-E1", "E1*65536", "1=1", "(1)", "COUNT(1)",
+                "--1", "999999999"}) {
             works("=IF(" + test + ",2,3)", 2);
             works("=IF(" + test + ",B1,3)", "error 2");
         }
-        for (String test : new String[] {"0", "-0", "000", "G1", "F1", "1-1", "1=2", "C1+C1", "E1*E1", "SUM(G1:H2)", "1/2", "2%2"}) {
+        for (String test : new String[] {"0", "-0", "000", "G1", "F1", "1-1", "1=2", "C1+C1", "E1*E1", "SUM(G1:H2)",
+                "1/2", "2%2"}) {
             works("=IF(" + test + ",2,3)", 3);
             works("=IF(" + test + ",2,B1)", "error 2");
         }
@@ -332,7 +337,8 @@ public final class ValueEdgesTest {
             for (String corners : new String[] {"B2:D4", "D4:B2", "B4:D2", "D2:B4"}) {
                 String text = "=" + function + "(" + corners + ")";
                 check.due("a later column of an earlier row, " + text, one.with("G8", text).shows("G8"), "error 2");
-                check.due("a later column of an earlier row again, " + text, other.with("G8", text).shows("G8"), "error 1");
+                check.due("a later column of an earlier row again, " + text, other.with("G8", text).shows("G8"),
+                        "error 1");
                 check.due("the earlier column of a row, " + text, row.with("G8", text).shows("G8"), "error 2");
             }
         }
